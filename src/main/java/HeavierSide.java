@@ -690,7 +690,7 @@ public final class HeavierSide {
     }
 
     private static boolean isPosture(int posture) {
-        return isWithin(posture, 0, POSTURES - 1);
+        return posture >= 0 && posture < POSTURES;
     }
 
     private Row rowOf(int r) {
@@ -943,9 +943,7 @@ public final class HeavierSide {
 
         void take(int[] from, int n) {
             renew(Math.min(n, from.length));
-            for (int i = 0; i < size && i < from.length; i++) {
-                places[i] = from[i];
-            }
+            System.arraycopy(from, 0, places, 0, size);
         }
 
         long sum() {
@@ -1370,7 +1368,6 @@ public final class HeavierSide {
             if (b == NONE || c == NONE || b == c) {
                 return false;
             }
-            place(g, NONE);
             place(h, NONE);
             boolean may = mayTake(g, c);
             if (may) {
@@ -1740,6 +1737,7 @@ public final class HeavierSide {
         final int[] cheapest = new int[MOST_INVITED];
         private final Barge barge;
         private final int[] tried = new int[MOST_INVITED];
+        /** How many of those tried sit on each BENCH; 0 again behind each search. */
         private final int[] newcomers = new int[MOST_BENCHES];
         private final int[] weights = new int[MOST_INVITED];
         private final int[] costs = new int[MOST_INVITED];
@@ -1755,9 +1753,6 @@ public final class HeavierSide {
             for (int i = 0; i < invited; i++) {
                 weights[i] = weightRow.placeAt(i);
                 costs[i] = costRow.placeAt(i);
-            }
-            for (int b = 0; b < MOST_BENCHES; b++) {
-                newcomers[b] = 0;
             }
             tryCousin(0, barge.listIn(SITTING), 0);
         }

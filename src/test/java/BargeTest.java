@@ -151,6 +151,14 @@ public final class BargeTest {
         Due.is("a ninth that is BAD", x.quarrel(0, 0), HeavierSide.BAD);
         Due.is("count(8)", x.count(8), 8);
         Due.is("they sit as they sit", x.count(2), 2);
+        x = Due.barge("m m g10 g10 g10 g10 g10 g10 g10");
+        x.quarrel(6, 0);
+        Due.seats(x, 0);
+        Due.is("the last GUEST quarrels as others", x.seat(6, 1), HeavierSide.STATE);
+        x = Due.barge("m m g10 g10 g10 g10 g10 g10 g10");
+        x.quarrel(0, 6);
+        Due.seats(x, 0);
+        Due.is("whoever is told first", x.seat(6, 1), HeavierSide.STATE);
     }
 
     private static void peace() {

@@ -154,6 +154,20 @@ public final class DeedsTest {
         Due.is("the first three are forgotten", x.undo(), HeavierSide.STATE);
         Due.is("it sits as behind the third", x.rise(0), 0);
         Due.is("count(9)", x.count(9), 1);
+        x = Due.barge("l1 r1 g10 g20");
+        Due.seats(x, 0, 1);
+        for (int i = 0; i < 20; i++) {
+            Due.is("change(0, 1)", x.change(0, 1), 1);
+            Due.is("rise(1)", x.rise(1), i % 2);
+            Due.is("seat(1, ..)", x.seat(1, i % 2), i % 2);
+        }
+        x.change(1, 0);
+        for (int i = 0; i < 60; i++) {
+            Due.is("undo() of sixty unlike ones, " + i, x.undo(), i % 3 == 0 ? 2 : i % 3 == 1 ? 0 : 1);
+        }
+        sits(x, 0, 1);
+        sits(x, 1, 0);
+        Due.is("no more", x.undo(), HeavierSide.STATE);
     }
 
     private static void keepAndOn() {

@@ -12,6 +12,7 @@ public final class GuestsTest {
         inviteSeats();
         inviteRefused();
         far();
+        farOnBenchesAlone();
         crossed();
         divorce();
         kin();
@@ -29,6 +30,10 @@ public final class GuestsTest {
         x = Due.barge("l1 r1 g30 g30 g10 g10");
         Due.seats(x, 0, 0, 1, 1);
         Due.tells("aisle() the first of alike ones", x, x.aisle(), 2, 0);
+        x = Due.barge("m l1 r1 g90 g30 g10");
+        Due.seats(x, 0, 1, 2);
+        x.rain(-2);
+        Due.tells("aisle() 10 times the lesser number", x, x.aisle(), 12, 0);
         x = Due.barge("l1 g30");
         Due.is("aisle() of nobody", x.aisle(), HeavierSide.NONE);
     }
@@ -85,7 +90,12 @@ public final class GuestsTest {
         Due.is("behind the last one the RAIN alone", x.leave(1), HeavierSide.NONE);
         x.limit(9);
         Due.is("leave(1)", x.leave(1), 1);
-        Due.rite(x, "t");
+        x = Due.barge("r2 g10 g90");
+        Due.seats(x, 0, 0);
+        x.rain(-5);
+        x.limit(5);
+        Due.is("leave(1) with RAIN", x.leave(1), 2);
+        Due.rowIs(x, "not by numbers alone", 1, 1, 0);
         x = Due.barge("r1 r1 a90 a10");
         Due.seats(x, 0, 1);
         x.limit(1);
@@ -111,6 +121,11 @@ public final class GuestsTest {
         Due.tells("leavers()", x, x.leavers(), 3, 3);
         x.rain(5);
         Due.tells("leavers() by the RAIN", x, x.leavers(), 0, 0);
+        x = Due.barge("m m m m g10 g10 g10 g10 g10 g10 g10");
+        Due.seats(x, -1, -1, -1, 0, 0, 1, 1);
+        Due.tells("leavers() of those seated", x, x.leavers(), 120, 120);
+        x.rise(6);
+        Due.tells("leavers() of fewer", x, x.leavers(), 56, 56);
     }
 
     private static void invite() {
@@ -143,7 +158,22 @@ public final class GuestsTest {
         x.limit(3);
         Due.is("invite(0, 0, 4)", x.invite(0, 0, 4), 1);
         Due.rowIs(x, "invite", 4, 1, HeavierSide.NONE, HeavierSide.NONE, HeavierSide.NONE);
-        x.limit(0);
+        x = Due.barge("l1 r1 c40");
+        Due.seats(x, 0);
+        Due.row(x, 0, 1, 1, 1, 1);
+        Due.is("two SEATS to the right", x.invite(0, 0, 4), HeavierSide.NONE);
+        x.limit(2);
+        Due.is("two SEATS to the right", x.invite(0, 0, 4), 2);
+        Due.rowIs(x, "two", 4, 1, 1, HeavierSide.NONE, HeavierSide.NONE);
+        Due.row(x, 0, 1);
+        Due.is("fewer than ahead", x.invite(0, 0, 4), HeavierSide.NONE);
+        x.rain(5);
+        Due.is("LEVEL as it is", x.invite(0, 0, 4), 0);
+        x.rain(7);
+        Due.is("to the first BENCH", x.invite(0, 0, 4), 1);
+        Due.rowIs(x, "the first BENCH", 4, 0);
+        x = Due.barge("l1 r1 c90 g50 g40");
+        Due.seats(x, 0, 1);
         Due.row(x, 0, 2, 2);
         Due.row(x, 1, 0, 99);
         x.rise(1);
@@ -171,6 +201,8 @@ public final class GuestsTest {
         Due.finds("WEIGHT 0", x, x.invite(0, 1, 2), UNLIKE);
         Due.row(x, 0, 1, 2, 3, 10);
         Due.finds("WEIGHT 10", x, x.invite(0, 1, 2), UNLIKE);
+        Due.row(x, 0, 0, 2, 3, 1);
+        Due.finds("WEIGHT 0 ahead", x, x.invite(0, 1, 2), UNLIKE);
         Due.row(x, 0, 1, 2, 3, 9);
         Due.row(x, 1, 0, 0, 0, 100);
         Due.finds("cost 100", x, x.invite(0, 1, 2), UNLIKE);
@@ -197,9 +229,22 @@ public final class GuestsTest {
         Due.is("far(-1, 0)", x.far(-1, 0), HeavierSide.BAD);
         Due.is("far(0, 3)", x.far(0, 3), HeavierSide.BAD);
         Due.is("far(0, -1)", x.far(0, -1), HeavierSide.BAD);
+        x.seat(0, 4);
+        Due.tells("far(0, 0) from the other side", x, x.far(0, 0), 5, 3);
         x.rain(200);
+        x.seat(0, 3);
         x.list(0);
         Due.tells("far(0, 0) nowhere", x, x.far(0, 0), HeavierSide.NONE, 190);
+    }
+
+    private static void farOnBenchesAlone() {
+        HeavierSide x = Due.barge("l2 r2 g10");
+        Due.is("far(0, 0) not unseated", x.far(0, 0), HeavierSide.NONE);
+        Due.seats(x, 0);
+        x.rain(2);
+        Due.tells("far(0, 0) where it is", x, x.far(0, 0), 2, 0);
+        x.rain(-2);
+        Due.tells("far(0, 0) on the other side", x, x.far(0, 0), 2, 1);
     }
 
     private static void crossed() {
@@ -246,6 +291,13 @@ public final class GuestsTest {
         Due.is("kin(-1)", x.kin(-1), HeavierSide.BAD);
         Due.is("kin(100)", x.kin(100), HeavierSide.BAD);
         Due.is("kin(99)", x.kin(99), 0);
+        x = Due.barge("m g10 g11 g10 g11 g10 g11 g11");
+        Due.tells("kin(1) of seven", x, x.kin(1), 0, 0);
+        Due.is("kin(0) of seven", x.kin(0), HeavierSide.NONE);
+        x = Due.barge("m g20 g11 g11");
+        Due.tells("kin(0)", x, x.kin(0), 0, 0);
+        x = new HeavierSide();
+        Due.tells("kin(0) of nobody", x, x.kin(0), 0, 0);
         x = Due.barge("m g30 g30 g20");
         Due.tells("kin(2) the least set", x, x.kin(2), 1, 1);
     }

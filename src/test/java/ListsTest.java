@@ -75,6 +75,9 @@ public final class ListsTest {
         Due.rite(x, "sstks");
         Due.is("minutes()", x.minutes(), 4);
         Due.fraction("minutes()", x, 4, 5);
+        Due.rite(x, "t");
+        Due.is("minutes() STANDING alone", x.minutes(), 0);
+        Due.fraction("minutes() 0 by 1", x, 0, 1);
     }
 
     private static void worst() {
@@ -83,6 +86,8 @@ public final class ListsTest {
         Due.tells("worst() without a RITE", x, x.worst(), 22, 0);
         Due.rite(x, "kstkt");
         Due.tells("worst()", x, x.worst(), 27, 2);
+        Due.rite(x, "kts");
+        Due.tells("worst()", x, x.worst(), 27, 1);
         Due.rite(x, "kk");
         Due.tells("worst() alike", x, x.worst(), 16, 0);
         x.rain(200);

@@ -39,6 +39,7 @@ public final class RowsTest {
         Due.is("no finding by BAD", x.finding(), 0);
         Due.finds("row(0, -1)", x, x.row(0, -1), SIZE);
         Due.is("a refused row() leaves the ROW", x.lay(0, 59, 7), 1);
+        Due.is("lay(0, 0, 7)", x.lay(0, 0, 7), 1);
         Due.is("row(0, 2) anew", x.row(0, 2), 2);
         Due.rowIs(x, "row anew", 0, 0, 0);
         Due.is("row(0, 60) again", x.row(0, 60), 60);
@@ -112,6 +113,8 @@ public final class RowsTest {
         Due.finds("copy(0, 0, 1, 3, 0)", x, x.copy(0, 0, 1, 3, 0), BEYOND);
         Due.finds("copy(0, 0, 1, 0, 3)", x, x.copy(0, 0, 1, 0, 3), BEYOND);
         Due.finds("copy(1, 0, 0, 0, 3)", x, x.copy(1, 0, 0, 0, 3), BEYOND);
+        Due.finds("copy(0, 2, 1, 0, 2)", x, x.copy(0, 2, 1, 0, 2), BEYOND);
+        Due.finds("copy(0, 0, 1, 1, 2)", x, x.copy(0, 0, 1, 1, 2), BEYOND);
         Due.finds("copy(0, 1, 0, 1, MAX)", x, x.copy(0, 1, 0, 1, Integer.MAX_VALUE), BEYOND);
     }
 
@@ -123,6 +126,8 @@ public final class RowsTest {
         Due.finds("mean(4) of none", x, x.mean(4), NOUGHT);
         Due.row(x, 4, 7, 4);
         Due.tells("mean(4)", x, x.mean(4), 1, 5);
+        x.row(4, 1);
+        Due.tells("mean(4) of those there alone", x, x.mean(4), 1, 0);
         Due.row(x, 4, -7, -4);
         Due.tells("mean(4) below 0, cut", x, x.mean(4), 1, -5);
         Due.row(x, 4, Integer.MAX_VALUE, Integer.MAX_VALUE, Integer.MAX_VALUE);

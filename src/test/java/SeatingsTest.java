@@ -36,19 +36,30 @@ public final class SeatingsTest {
     }
 
     private static void bestByTheRite() {
+        // MOMENTS of the CHOIR: -6, 8, 12, STANDING -10, 12, 16; of the COUSIN: -6, 8, 12, KNEELING -2, 4, 8
         HeavierSide x = Due.barge("l3 r4 r6 h20 k10");
         Due.is("best(0) SITTING", x.best(0), 2);
         Due.rowIs(x, "SITTING", 0, 0, 1);
         Due.rite(x, "tk");
         Due.is("best(0) STANDING, KNEELING", x.best(0), 2);
         Due.rowIs(x, "STANDING, KNEELING", 0, 0, 1);
+        x.rain(-5);
+        Due.is("best(0) with RAIN", x.best(0), 1);
+        Due.rowIs(x, "with RAIN", 0, 1, 0);
         Due.rite(x, "k");
-        Due.is("best(0) KNEELING alone", x.best(0), 2);
+        Due.is("best(0) KNEELING alone", x.best(0), 1);
+        Due.rowIs(x, "KNEELING alone", 0, 1, 0);
         Due.rite(x, "t");
-        Due.is("best(0) STANDING alone", x.best(0), 2);
-        Due.rite(x, "kts");
-        x.rain(1);
-        Due.is("best(0) with RAIN", x.best(0), 3);
+        Due.is("best(0) STANDING alone", x.best(0), 1);
+        Due.rowIs(x, "STANDING alone", 0, 1, 0);
+        x.rain(2);
+        Due.is("best(0) STANDING alone", x.best(0), 0);
+        Due.rowIs(x, "STANDING alone", 0, 0, 1);
+        Due.rite(x, "k");
+        Due.is("best(0) KNEELING alone", x.best(0), 0);
+        Due.rowIs(x, "KNEELING alone", 0, 0, 1);
+        Due.rite(x, "s");
+        Due.is("best(0) SITTING alone", x.best(0), 4);
     }
 
     private static void bestRefused() {

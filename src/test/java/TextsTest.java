@@ -22,7 +22,9 @@ public final class TextsTest {
         Due.is("text(0, 61)", x.text(0, 61), HeavierSide.BAD);
         Due.finds("text(0, -1)", x, x.text(0, -1), SIZE);
         Due.is("put(0, 59, 7)", x.put(0, 59, 7), 1032);
+        Due.is("put(0, 0, 7)", x.put(0, 0, 7), 1032);
         Due.is("text(0, 60) anew", x.text(0, 60), 60);
+        Due.is("put(0, 0, 7) again", x.put(0, 0, 7), 1032);
         Due.is("put(0, 59, 7) again", x.put(0, 59, 7), 1032);
         Due.is("count(7)", x.count(7), 2);
     }
@@ -114,6 +116,7 @@ public final class TextsTest {
         Due.rite(x, "tk");
         Due.seats(x, 0, 2);
         x.quarrel(0, 1);
+        x.keep(0);
         x.keep(1);
         Due.text(x, 0, "l");
         Due.is("barge(0) with a FAULT", x.barge(0), HeavierSide.STATE);
@@ -127,6 +130,7 @@ public final class TextsTest {
         Due.is("anew: no QUARRELS", x.count(8), 0);
         Due.is("anew: no DEEDS", x.count(9), 0);
         Due.is("anew: undo()", x.undo(), HeavierSide.STATE);
+        Due.finds("anew: on(0)", x, x.on(0), NOTHING);
         Due.finds("anew: on(1)", x, x.on(1), NOTHING);
         Due.tells("anew: bench(0, 3)", x, x.bench(0, 3), 1, 0);
         Due.seats(x, 0, 0, 0);

@@ -58,6 +58,10 @@ public final class ToldTest {
         Due.fraction("stays by refusals", x, 1, 15);
         x.minutes();
         Due.fraction("minutes", x, 1, 1);
+        x.odds(0, 7);
+        x.rain(5);
+        x.minutes();
+        Due.fraction("minutes 0 by 1", x, 0, 1);
     }
 
     private static void count() {
@@ -124,17 +128,18 @@ public final class ToldTest {
         x.rain(-55);
         Due.seats(x, 0);
         x.quarrel(1, 0);
+        x.quarrel(0, 1);
         x.keep(1);
         Due.row(x, 4, 6, -7);
         x.text(0, 0);
         x.text(3, 1);
         x.put(3, 0, 200);
         Due.is("digest()", x.digest(), mixed(
-                2, 2, 1, 2, 0, 1, 1, 3, 1, 1, 44, -55,
+                2, 2, 1, 2, 0, 1, 1, 3, 2, 1, 44, -55,
                 -3, 1, 4, 1, 0, 0, 0, 0,
                 2, 2, 0, 0, 4, 3, 9, 1, -9, 9,
                 2, 1,
-                1, 0,
+                1, 0, 0, 1,
                 -1, 0, -9, -1,
                 -1, -1, -1, -1, 2, 6, -7, -1,
                 0, 2, 'k', 't', -1, 1, -56));
