@@ -1155,7 +1155,7 @@ public final class HeavierSide {
         private final int[] weights = new int[MOST_GUESTS];
         private final int[] kins = new int[MOST_GUESTS];
         private final int[] sitsOn = new int[MOST_GUESTS];
-        /** Reckoned once for each BARGE, as a search of SEATINGS asks for them many thousand times. */
+        /** Reckoned once for each BARGE, as each look at THE LIST asks for them. */
         private final int[] moments = new int[MOST_GUESTS * MOST_BENCHES * POSTURES];
         private int seatTakers = 0;
 

@@ -72,6 +72,11 @@ public final class GuestsTest {
         x.limit(2);
         Due.is("leave(0)", x.leave(0), 2);
         Due.rowIs(x, "the heavier one ahead", 0, 0, 1);
+        x = Due.barge("l2 g10 g20");
+        Due.seats(x, 0, 0);
+        x.limit(2);
+        Due.is("leave(0)", x.leave(0), 2);
+        Due.rowIs(x, "GUEST 0 last", 0, 1, 0);
         x.limit(1);
         Due.is("leave(0)", x.leave(0), HeavierSide.NONE);
     }
@@ -158,18 +163,18 @@ public final class GuestsTest {
         x.limit(3);
         Due.is("invite(0, 0, 4)", x.invite(0, 0, 4), 1);
         Due.rowIs(x, "invite", 4, 1, HeavierSide.NONE, HeavierSide.NONE, HeavierSide.NONE);
-        x = Due.barge("l1 r1 c40");
+        x = Due.barge("l1 r1 c30");
         Due.seats(x, 0);
         Due.row(x, 0, 1, 1, 1, 1);
         Due.is("two SEATS to the right", x.invite(0, 0, 4), HeavierSide.NONE);
-        x.limit(2);
+        x.limit(1);
         Due.is("two SEATS to the right", x.invite(0, 0, 4), 2);
         Due.rowIs(x, "two", 4, 1, 1, HeavierSide.NONE, HeavierSide.NONE);
         Due.row(x, 0, 1);
         Due.is("fewer than ahead", x.invite(0, 0, 4), HeavierSide.NONE);
-        x.rain(5);
+        x.rain(4);
         Due.is("LEVEL as it is", x.invite(0, 0, 4), 0);
-        x.rain(7);
+        x.rain(5);
         Due.is("to the first BENCH", x.invite(0, 0, 4), 1);
         Due.rowIs(x, "the first BENCH", 4, 0);
         x = Due.barge("l1 r1 c90 g50 g40");

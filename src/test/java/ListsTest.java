@@ -53,6 +53,16 @@ public final class ListsTest {
         Due.tells("when()", x, x.when(), 3, 15);
         x.limit(9);
         Due.tells("when() at once", x, x.when(), 0, 10);
+        x.limit(10);
+        x.rain(-20);
+        Due.rite(x, "t");
+        Due.is("when() in its MINUTES alone", x.when(), HeavierSide.NONE);
+        Due.is("minutes() of one", x.minutes(), 1);
+        x.rain(-24);
+        Due.is("when() STANDING alone", x.when(), HeavierSide.NONE);
+        Due.is("minutes() of one, STANDING", x.minutes(), 1);
+        x.rain(0);
+        Due.rite(x, "ksstst");
         x.limit(15);
         x.list(1);
         x.rain(-5);

@@ -121,9 +121,9 @@ public final class TextsTest {
         Due.text(x, 0, "l");
         Due.is("barge(0) with a FAULT", x.barge(0), HeavierSide.STATE);
         Due.is("refused: they sit", x.count(2), 2);
-        Due.text(x, 0, "m r1 u11 c90 g10");
+        Due.text(x, 0, "m r1 c11 c90 g10");
         Due.is("barge(0) anew", x.barge(0), 2);
-        int[] counts = {2, 3, 0, 2, 0, 1};
+        int[] counts = {2, 3, 0, 2, 0, 0};
         for (int what = 0; what < counts.length; what++) {
             Due.is("anew: count(" + what + ")", x.count(what), counts[what]);
         }
@@ -134,6 +134,7 @@ public final class TextsTest {
         Due.finds("anew: on(1)", x, x.on(1), NOTHING);
         Due.tells("anew: bench(0, 3)", x, x.bench(0, 3), 1, 0);
         Due.seats(x, 0, 0, 0);
+        Due.tells("anew: CHILDREN take no SEATS", x, x.bench(0, 1), 1, 1);
         Due.is("LIMIT stays", x.limit(0), 9);
         Due.tells("RAIN stays", x, x.rain(0), 1, -4);
     }
