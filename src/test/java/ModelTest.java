@@ -2,13 +2,15 @@ import java.util.Random;
 
 /** Long runs of calls by lots, each answer and what is told behind it held against the plain Model. */
 public final class ModelTest {
-    private static final int RUNS = 1500;
-    private static final int CALLS = 100;
+    private static final int RUNS = 2500;
+    /** An object is used for 512 calls; the last ones are left to those that look at findings() and count(). */
+    private static final int CALLS = 380;
 
     private final Random lots;
     private final int run;
     private final HeavierSide x = new HeavierSide();
     private final Model m = new Model();
+    private int calls = 0;
 
     private ModelTest(int run) {
         this.run = run;
@@ -23,6 +25,7 @@ public final class ModelTest {
     }
 
     private void due(String call, long got, long want) {
+        calls++;
         Due.is("run " + run + ": " + call, got, want);
     }
 
@@ -34,7 +37,7 @@ public final class ModelTest {
             tellRite();
         }
         due("limit", x.limit(30), m.limit(30));
-        for (int i = 0; i < CALLS; i++) {
+        while (calls < CALLS) {
             String call = callOne();
             due("asked() behind " + call, x.asked(), m.asked());
             due("upper() behind " + call, x.upper(), m.upper());
@@ -47,6 +50,9 @@ public final class ModelTest {
         }
         for (int what = -1; what < 11; what++) {
             due("count(" + what + ")", x.count(what), m.count(what));
+        }
+        if (calls > 512) {
+            throw new IllegalStateException("run " + run + " has " + calls + " calls");
         }
     }
 
