@@ -160,6 +160,9 @@ public final class EdgesOfBargesTest {
         Edge.answers("to the right, far out", on("r9", "a40"), x -> x.mark(0, 1), 4);
         Edge.answers("to the left, below 0", on("l1", "a40"), x -> x.mark(0, 1), -4);
         Edge.answers("in the middle", on("m", "a40"), x -> x.mark(0, 1), 0);
+        Scene later = Scene.barge("l1 m r5 g10 a40 a30").seats(-1, 2, 0);
+        Edge.answers("GUEST 1 on BENCH 2", later, x -> x.mark(1, 1), 4);
+        Edge.answers("GUEST 2 on BENCH 0", later, x -> x.mark(2, 1), -3);
         Edge.answers("not seated", Scene.barge("r1 a40"), x -> x.mark(0, 1), 0);
         Edge.answers("risen", on("r1", "a40").then(x -> x.rise(0)), x -> x.mark(0, 1), 0);
         Edge.answers("a CHOIR to the right", on("r1", "h40"), x -> x.mark(0, 1), 8);
@@ -176,6 +179,9 @@ public final class EdgesOfBargesTest {
         Edge.answers("to the left", on("l2", "u40"), x -> x.mark(0, 2), 8);
         Edge.answers("one out, to 0", on("r1", "u40"), x -> x.mark(0, 2), -8);
         Edge.answers("in the middle", on("m", "u40"), x -> x.mark(0, 2), 0);
+        Scene later = Scene.barge("l1 m r5 g10 u40 u30").seats(-1, 2, 0);
+        Edge.answers("GUEST 1 on BENCH 2", later, x -> x.mark(1, 2), -8);
+        Edge.answers("GUEST 2 on BENCH 0", later, x -> x.mark(2, 2), 6);
         Edge.answers("not seated", Scene.barge("r1 u40"), x -> x.mark(0, 2), 0);
         Edge.answers("a COUSIN three out", on("r3", "k40"), x -> x.mark(0, 2), -16);
         Edge.answers("a COUSIN two out, to 0", on("l2", "k40"), x -> x.mark(0, 2), 16);

@@ -98,6 +98,13 @@ public final class EdgesOfDeedsTest {
         Edge.state("on one BENCH", eight().quarrel(0, 1).seats(3), x -> x.seat(1, 3));
         Edge.state("told the other way", eight().quarrel(1, 0).seats(3), x -> x.seat(1, 3));
         Edge.state("a CHILD, too", eight().quarrel(0, 3).seats(3), x -> x.seat(3, 3));
+        Edge.state("the last GUEST", eight().quarrel(6, 0).seats(3), x -> x.seat(6, 3));
+        Edge.state("the last GUEST told last", eight().quarrel(0, 6).seats(3), x -> x.seat(6, 3));
+        Scene twoFoes = eight().seats(-1, 1, 6);
+        for (int bench : new int[] {1, 6}) {
+            Edge.state("either of two foes", twoFoes.quarrel(0, 1).quarrel(0, 2), x -> x.seat(0, bench));
+            Edge.state("told the other way", twoFoes.quarrel(1, 0).quarrel(2, 0), x -> x.seat(0, bench));
+        }
         Edge.answers("another one may", eight().quarrel(0, 1).seats(3), x -> x.seat(2, 3), 3);
     }
 
@@ -266,15 +273,44 @@ public final class EdgesOfDeedsTest {
             HeavierSide x = deeds(n).make();
             int kept = Math.min(60, n);
             Due.is("DEEDS kept of " + n, x.count(9), kept);
-            for (int i = 0; i < kept; i++) {
+            for (int i = 1; i <= kept; i++) {
                 Due.is("undo() " + i + " of " + n, x.undo(), 0);
+                Due.tells("undone " + i + " of " + n, x, x.guest(0, 3), 1, i == n ? NONE : (n - i + 1) % 2);
             }
             Due.is("no more of " + n, x.undo(), HeavierSide.STATE);
             x.guest(0, 3);
             Due.is("where it sits behind them, of " + n, x.asked(), n <= 60 ? NONE : (n - 61) % 2);
         }
+        sixtyUnlikeOnes();
         Edge.answers("the first of all is forgotten, not the last",
                 deeds(60).then(x -> x.rise(0)), x -> x.undo() * 100 + x.count(9), 159);
+    }
+
+    /** Two are seated, then 20 times one changes, rises, is seated: the first two of all are forgotten. */
+    private static void sixtyUnlikeOnes() {
+        HeavierSide x = Scene.barge("l1 r1 g10 g20").seats(0, 1).make();
+        int[] ahead = new int[60];
+        int[] sorts = new int[60];
+        for (int i = 0; i < 60; i++) {
+            ahead[i] = sitsBoth(x);
+            sorts[i] = i % 3 == 0 ? 2 : i % 3 == 1 ? 1 : 0;
+            int bench = x.guest(1, 3) * x.asked();
+            int answer = i % 3 == 0 ? x.change(0, 1) : i % 3 == 1 ? x.rise(1) : x.seat(1, i / 3 % 2);
+            Due.is("DEED " + i, answer, i % 3 == 0 ? 1 : i % 3 == 1 ? bench : i / 3 % 2);
+        }
+        Due.is("sixty", x.count(9), 60);
+        for (int i = 59; i >= 0; i--) {
+            Due.is("undo() of DEED " + i, x.undo(), sorts[i]);
+            Due.is("as ahead of DEED " + i, sitsBoth(x), ahead[i]);
+        }
+        Due.is("no more", x.undo(), HeavierSide.STATE);
+    }
+
+    private static int sitsBoth(HeavierSide x) {
+        x.guest(0, 3);
+        int first = x.asked();
+        x.guest(1, 3);
+        return first * 100 + x.asked();
     }
 
     private static void undoWhateverQuarrels() {
@@ -351,6 +387,11 @@ public final class EdgesOfDeedsTest {
         int[] benches = {0, 7, 3, NONE, NONE, NONE, NONE};
         for (int g = 0; g < 7; g++) {
             sits("as kept", others.then(x -> x.on(1)), g, benches[g]);
+        }
+        Scene seven = eight().seats(7, 6, 5, 4, 3, 2, 1).then(x -> x.keep(0));
+        for (int g = 0; g < 7; g++) {
+            int who = g;
+            sits("seven kept", seven.then(x -> x.rise(who)).then(x -> x.on(0)), g, 7 - g);
         }
         Edge.tells("a BENCH is left", others.then(x -> x.on(1)), x -> x.bench(5, 3), 1, 0);
         Edge.answers("nobody", eight().then(x -> x.keep(2)).seats(1, 1), x -> x.on(2), 0);

@@ -16,6 +16,7 @@ public final class EdgesOfGuestsTest {
         leaveIsRefused();
         leaversFirstAndLast();
         leaversOfNoOrder();
+        leavingIsAnew();
         inviteNobody();
         inviteFour();
         inviteWeightsAndCosts();
@@ -25,6 +26,7 @@ public final class EdgesOfGuestsTest {
         inviteComesToARowAnew();
         inviteIsNone();
         inviteIsRefusedInItsOrder();
+        invitingIsAnew();
         farAtMost();
         farTheFirstSuchBench();
         farFromWhereItIs();
@@ -81,6 +83,9 @@ public final class EdgesOfGuestsTest {
         Edge.none("THE LIST is 0", Scene.barge("l1 r1 g30 g10").seats(0, 1).rain(2), x -> x.aisle());
         Edge.none("alike is not less", Scene.barge("l1 r1 g30 g10").seats(0, 1), x -> x.aisle());
         Edge.none("more is not less", Scene.barge("l1 r1 g30 g10").seats(0, 1).rain(1), x -> x.aisle());
+        Edge.none("less than STANDING alone", Scene.barge("l1 r1 a50 g40").seats(0, 1), x -> x.aisle());
+        Edge.none("less than KNEELING alone", Scene.barge("m r3 u10 g20").seats(1, 0).rain(-6), x -> x.aisle());
+        Edge.none("less by KNEELING alone", Scene.barge("m r3 u10 g10").seats(0, 1).rain(-4), x -> x.aisle());
     }
 
     // 36 "All who are seated leave, one behind the other, THE LIST, SITTING, being LEVEL behind each (behind the last one
@@ -102,6 +107,11 @@ public final class EdgesOfGuestsTest {
         Edge.brings("it need not be LEVEL ahead", heavy, x -> x.leave(0), 1, 0, 0);
         Scene aunts = Scene.barge("l1 r1 a50 a50").seats(0, 1).limit(5);
         Edge.brings("SITTING, whatever RITE", aunts.rite("t"), x -> x.leave(0), 2, 0, 0, 1);
+        Scene uncles = Scene.barge("l2 r2 u50 u50").seats(0, 1).limit(19);
+        Edge.none("SITTING, not KNEELING", uncles.rite("k"), x -> x.leave(0));
+        Scene last = Scene.barge("m m m r1 r1 g10 g10 g10 g10 g10 g50 g50").seats(0, 0, 1, 1, 2, 3, 4);
+        Edge.none("the last two GUESTS", last.limit(4), x -> x.leave(0));
+        Edge.brings("the last two GUESTS just so", last.limit(5), x -> x.leave(0), 7, 0, 5, 0, 1, 2, 3, 4, 6);
     }
 
     /** "(behind the last one THE RAIN alone)" */
@@ -162,13 +172,34 @@ public final class EdgesOfGuestsTest {
         Edge.tells("two of three", three.limit(2), x -> x.leavers(), 6, 6);
         Edge.tells("two of three by RAIN", three.limit(9).rain(9), x -> x.leavers(), 6, 1);
         Edge.tells("LEVEL behind 0, but none can go on", deadEnd(), x -> x.leavers(), 4, 1);
+        Edge.tells("0 alone would be LEVEL, but can't be last", Scene.barge("l1 l1 g60 g50 g10").seats(0, 0, 1).limit(6),
+                x -> x.leavers(), 1, 6);
     }
 
     private static void leaversOfNoOrder() {
         Edge.tells("none: 0, and 0", Scene.barge("r1 g10 g10").seats(0, 0).then(x -> x.list(0)), x -> x.leavers(), 0, 0);
+        Edge.tells("each alone would be LEVEL", Scene.barge("r1 r1 g10 g10 g10").seats(0, 0, 1).limit(1),
+                x -> x.leavers(), 0, 0);
         Edge.tells("nobody seated", Scene.barge("r3 g10").then(x -> x.bench(0, 0)), x -> x.leavers(), 0, 0);
         Edge.tells("no BENCHES", Scene.empty().rain(3), x -> x.leavers(), 0, 0);
         Edge.tells("by the RAIN behind the last one", Scene.barge("r1 g50").seats(0).rain(-5), x -> x.leavers(), 0, 0);
+    }
+
+    private static void leavingIsAnew() {
+        HeavierSide x = Scene.barge("m m m m g10 g10 g10 g10 g10 g10 g10").seats(0, 0, 1, 1, 2, 2, 3).make();
+        for (int g = 6; g >= 0; g--) {
+            int left = (2 << g) - 1;
+            Due.tells("leavers() of " + (g + 1), x, x.leavers(), left, left);
+            Due.is("leave(0) of " + (g + 1), x.leave(0), g + 1);
+            x.rise(g);
+        }
+        Due.tells("leavers() of nobody", x, x.leavers(), 0, 0);
+        HeavierSide y = Scene.barge("r1 g10 g20").seats(0, 0).limit(2).make();
+        Due.is("leave(0) by LIMIT 2", y.leave(0), 2);
+        Due.rowIs(y, "by LIMIT 2", 0, 0, 1);
+        y.limit(1);
+        Due.is("leave(0) by LIMIT 1", y.leave(0), 2);
+        Due.rowIs(y, "by LIMIT 1", 0, 1, 0);
     }
 
     // 38 "Cousins are invited to whom one tells WEIGHTS (a ROW, 1 .. 9 each, 4 at most) and costs (a ROW, 0 .. 99 each):
@@ -243,6 +274,8 @@ public final class EdgesOfGuestsTest {
                 x -> x.invite(0, 1, 2), 5, 2, NONE, 0);
         Edge.brings("two for less than one", invited(Scene.barge("r1").rain(-5), ints(5, 2, 3), ints(9, 4, 4)),
                 x -> x.invite(0, 1, 2), 8, 2, NONE, 0, 0);
+        Edge.brings("SITTING, not KNEELING", invited(Scene.barge("l2 r1 u20").seats(0).rite("k"), ints(8, 4), ints(5, 1)),
+                x -> x.invite(0, 1, 2), 5, 2, 1, NONE);
         Edge.brings("SITTING, whatever RITE", invited(Scene.barge("l1 r1 a20").seats(0).rite("t"), ints(2, 4), ints(5, 1)),
                 x -> x.invite(0, 1, 2), 5, 2, 1, NONE);
     }
@@ -300,6 +333,22 @@ public final class EdgesOfGuestsTest {
         Edge.finds("SIZE ahead of UNLIKE", five, x -> x.invite(4, 2, 0), Edge.SIZE);
         Edge.finds("UNLIKE: the WEIGHTS", Scene.full().row(3, 0), x -> x.invite(3, 3, 0), Edge.UNLIKE);
         Edge.finds("UNLIKE: the costs", Scene.full().row(3, 1).row(4, 100), x -> x.invite(3, 4, 0), Edge.UNLIKE);
+    }
+
+    private static void invitingIsAnew() {
+        HeavierSide x = invited(Scene.barge("r1 r1").rain(-9), ints(2, 2, 2, 3), ints(1, 1, 1, 1)).make();
+        for (int i = 0; i < 2; i++) {
+            Due.is("four again", x.invite(0, 1, 2), 4);
+            Due.rowIs(x, "four again", 2, 0, 0, 1, 1);
+        }
+        Due.row(x, 0, 3);
+        Due.row(x, 1, 5);
+        x.rain(-5);
+        Due.is("one behind four", x.invite(0, 1, 2), NONE);
+        x.rain(-3);
+        Due.is("one, LEVEL", x.invite(0, 1, 2), 5);
+        Due.rowIs(x, "one, LEVEL", 2, 0);
+        Due.is("one is more than none", x.limit(3) * 0 + x.invite(0, 1, 2), 0);
     }
 
     // 39 "How far out (0 .. 9) at most a GUEST may sit (from where it is, or unseated; on one of the BENCHES, SEATS and

@@ -142,6 +142,7 @@ public final class EdgesOfListsTest {
     private static void whenIsNone() {
         Edge.none("just LEVEL in each", auntToTheLeft("stk").limit(15), x -> x.when());
         Edge.none("in POSTURES that there are", auntToTheLeft("sks").limit(10), x -> x.when());
+        Edge.none("STANDING alone", auntToTheLeft("tt").rain(15), x -> x.when());
         Edge.none("nobody, no RAIN", Scene.empty(), x -> x.when());
         Edge.none("those who are not seated aside", Scene.barge("l2 a50"), x -> x.when());
         Edge.none("asked() stays", Scene.full().limit(999), x -> x.when());

@@ -1,3 +1,5 @@
+import java.util.Arrays;
+
 /** Promises 1 to 7: each boundary that the document names for a new object and for ROWS. */
 public final class EdgesOfRowsTest {
     private static final int MOST = Edge.MOST, LEAST = Edge.LEAST;
@@ -264,8 +266,8 @@ public final class EdgesOfRowsTest {
     private static void meanOfTheGreatest() {
         int[] most = new int[60];
         int[] least = new int[60];
-        java.util.Arrays.fill(most, MOST);
-        java.util.Arrays.fill(least, LEAST);
+        Arrays.fill(most, MOST);
+        Arrays.fill(least, LEAST);
         Edge.tells("sixty of the greatest", Scene.empty().row(0, most), x -> x.mean(0), 1, MOST);
         Edge.tells("sixty of the least", Scene.empty().row(0, least), x -> x.mean(0), 1, LEAST);
         Edge.tells("the greatest and the least", Scene.empty().row(0, MOST, LEAST), x -> x.mean(0), 1, 0);

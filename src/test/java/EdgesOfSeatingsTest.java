@@ -26,6 +26,7 @@ public final class EdgesOfSeatingsTest {
         whereOnHowManyBenches();
         whereNowhere();
         whereIsRefused();
+        eachSearchIsAnew();
         allStaysAsItIs();
         Due.end();
     }
@@ -67,6 +68,7 @@ public final class EdgesOfSeatingsTest {
         Edge.answers("five on one BENCH", Scene.barge("m c10 c10 c10 c10 c10"), x -> x.ways(), 1);
         Edge.answers("onto a full BENCH", Scene.barge("m g10 g10 c10").seats(0, 0), x -> x.ways(), 1);
         Edge.answers("they leave the SEATS", Scene.barge("m c10 c10 g10 g10").seats(0, 0), x -> x.ways(), 1);
+        Edge.answers("they bring none", Scene.barge("m c10 c10 g10 g10 g10"), x -> x.ways(), 0);
         Edge.answers("they quarrel, too", Scene.barge("m c10 c10").quarrel(0, 1), x -> x.ways(), 0);
     }
 
@@ -75,6 +77,10 @@ public final class EdgesOfSeatingsTest {
         Edge.answers("on three", Scene.barge("m m m g10 g10").quarrel(0, 1), x -> x.ways(), 2);
         Edge.answers("told the other way", Scene.barge("m m m g10 g10").quarrel(1, 0), x -> x.ways(), 2);
         Edge.answers("on eight", Scene.barge("mmmmmmmm g10 g10").quarrel(1, 0), x -> x.ways(), 42);
+        Edge.answers("another one being between", Scene.barge("m g10 c10 c10").quarrel(0, 2), x -> x.ways(), 0);
+        Edge.answers("with two others", Scene.barge("m m m g10 c10 c10").quarrel(0, 1).quarrel(0, 2), x -> x.ways(), 2);
+        Edge.answers("with two others, told the other way",
+                Scene.barge("m m m g10 c10 c10").quarrel(1, 0).quarrel(2, 0), x -> x.ways(), 2);
         Edge.answers("by numbers, not by X", Scene.barge("l9 r9 l9 g10 g10").limit(999).quarrel(1, 0), x -> x.ways(), 2);
     }
 
@@ -108,13 +114,23 @@ public final class EdgesOfSeatingsTest {
     private static void seatingsAreThroughEachMinute() {
         Scene aunt = Scene.barge("m r1 r2 a10").limit(2);
         Edge.shares("SITTING", aunt, x -> x.ways(), 3, 1, 1);
+        Edge.shares("SITTING, an UNCLE, without a RITE", Scene.barge("m r1 u10"), x -> x.ways(), 1, 1, 2);
+        Edge.shares("SITTING, an UNCLE, with a RITE", Scene.barge("m r1 u10").rite("s"), x -> x.ways(), 1, 1, 2);
         Edge.shares("STANDING", aunt.rite("t"), x -> x.ways(), 2, 2, 3);
         Edge.shares("in one MINUTE of forty", aunt.rite("s".repeat(39) + "t"), x -> x.ways(), 2, 2, 3);
+        Edge.shares("in the first of forty", aunt.rite("t" + "k".repeat(39)), x -> x.ways(), 2, 2, 3);
         Edge.shares("not in a POSTURE that there is not", aunt.rite("ks"), x -> x.ways(), 3, 1, 1);
         Scene uncle = Scene.barge("m r1 r2 u10");
         Edge.shares("KNEELING", uncle.rite("k"), x -> x.ways(), 2, 2, 3);
         Edge.shares("KNEELING, SITTING", uncle.rite("ks"), x -> x.ways(), 1, 1, 3);
         Edge.shares("all being seated", Scene.barge("l1 r1 a10 a10").seats(0).rite("st"), x -> x.ways(), 1, 1, 2);
+        String[] rites = {"s", "t", "k"};
+        int[] rains = {-6, -6, -4};
+        for (int p = 0; p < rites.length; p++) {
+            Scene sides = Scene.barge("l3 r3 u10").rite(rites[p]);
+            Edge.tells("to the right in POSTURE " + p, sides.rain(rains[p]), x -> x.where(0), 1, 2);
+            Edge.tells("to the left in POSTURE " + p, sides.rain(-rains[p]), x -> x.where(0), 1, 1);
+        }
         Edge.shares("with the RAIN", Scene.barge("l1 r1 a10 a10").seats(0).rite("st").rain(1), x -> x.ways(), 0, 0, 1);
     }
 
@@ -136,13 +152,18 @@ public final class EdgesOfSeatingsTest {
         Edge.brings("all alike", Scene.barge("m m m g10 g10"), x -> x.best(0), 0, 0, 0, 0);
         Edge.brings("to the left or to the right", Scene.barge("r1 l1 g10"), x -> x.best(0), 1, 0, 0);
         Edge.brings("by the first one's BENCH", Scene.barge("m l1 r1 g10 g10").quarrel(0, 1), x -> x.best(0), 1, 0, 0, 2);
-        Edge.brings("those of whom one is seated", Scene.barge("m l1 r1 g10 g10 g10").seats(-1, 1), x -> x.best(0), 0, 0, 0, 1, 2);
+        Edge.brings("those of whom one is seated", Scene.barge("m l1 r1 g10 g10 g10").seats(-1, 1),
+                x -> x.best(0), 0, 0, 0, 1, 2);
         Edge.brings("two full BENCHES", Scene.barge("m m g10 g10 g10"), x -> x.best(0), 0, 0, 0, 0, 1);
     }
 
     private static void bestComesToARowAnew() {
         Scene three = Scene.barge("l1 r1 g10 g20 g30").seats(-1, 1);
         Edge.brings("a missing ROW", three, x -> x.best(5), 0, 5, 1, 1, 0);
+        Scene seven = Scene.barge("m m m r9 g10 g10 g10 g10 g10 g10 g10").seats(3, 3);
+        Edge.brings("seven GUESTS", seven, x -> x.best(5), 18, 5, 3, 3, 0, 0, 1, 1, 2);
+        Scene lastSeated = Scene.barge("m m m r9 g10 g10 g10 g10 g10 g10 g10").seats(-1, -1, -1, -1, -1, 3, 3);
+        Edge.brings("seven GUESTS, the last ones seated", lastSeated, x -> x.best(5), 18, 5, 0, 0, 1, 1, 2, 3, 3);
         Edge.brings("a lesser ROW", three.row(5, 9), x -> x.best(5), 0, 5, 1, 1, 0);
         Edge.brings("a greater ROW", three.row(5, 9, 9, 9, 9), x -> x.best(5), 0, 5, 1, 1, 0);
         Edge.tells("asked() stays", Scene.full(), x -> x.best(5) * 0, 0, 12);
@@ -245,6 +266,28 @@ public final class EdgesOfSeatingsTest {
         Edge.state("it is seated", Scene.full(), x -> x.where(0));
         Edge.refused("six are not seated", six(), x -> x.where(5), SPENT);
         Edge.tells("five are not", six().seats(0), x -> x.where(5), 1, 1);
+    }
+
+    private static void eachSearchIsAnew() {
+        HeavierSide x = Scene.barge("l1 r1 m g10 g10").make();
+        for (int i = 0; i < 2; i++) {
+            Due.is("ways() again", x.ways(), 3);
+            Due.fraction("ways() again", x, 1, 3);
+            Due.tells("where(0) again", x, x.where(0), 3, 7);
+            Due.is("best(0) again", x.best(0), 0);
+        }
+        x.rain(1);
+        Due.is("ways() with RAIN", x.ways(), 2);
+        Due.tells("where(0) with RAIN", x, x.where(0), 2, 5);
+        x.rain(200);
+        Due.is("best(0) with more", x.best(0), 198);
+        Due.is("sure() with more", x.sure(), 0);
+        x.quarrel(0, 1);
+        x.seat(0, 1);
+        Due.is("best(0) of no SEATING", x.best(0), HeavierSide.NONE);
+        Due.is("ways() of no SEATING", x.ways(), 0);
+        Due.tells("where(1) of no SEATING", x, x.where(1), 0, 0);
+        Due.is("sure() of no SEATING", x.sure(), 0);
     }
 
     private static void allStaysAsItIs() {

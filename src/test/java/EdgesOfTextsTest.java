@@ -356,6 +356,8 @@ public final class EdgesOfTextsTest {
             int place = k;
             Edge.finds("no kept BARGE " + k, anew(), x -> x.on(place), Edge.NOTHING);
         }
+        Scene children = Scene.full().text(3, "m c10 c10 c10").then(x -> x.barge(3)).seats(0, 0, 0);
+        Edge.tells("CHILDREN, where others were, take no SEATS", children, x -> x.bench(0, 1), 1, 0);
         Scene fewer = Scene.full().text(3, "r7 k91").then(x -> x.barge(3));
         Edge.bad("a BENCH that there was", fewer, x -> x.bench(1, 0));
         Edge.bad("a GUEST that there was", fewer, x -> x.guest(1, 0));

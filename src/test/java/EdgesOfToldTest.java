@@ -1,3 +1,4 @@
+import java.math.BigInteger;
 import java.util.function.ToIntFunction;
 
 /** Promises 45 to 51: each boundary that the document names for what is told. */
@@ -264,9 +265,9 @@ public final class EdgesOfToldTest {
     // its size (-1: missing) and places, of each TEXT likewise."
 
     private static long mixed(int... values) {
-        java.math.BigInteger h = java.math.BigInteger.valueOf(17);
+        BigInteger h = BigInteger.valueOf(17);
         for (int v : values) {
-            h = h.multiply(java.math.BigInteger.valueOf(31)).add(java.math.BigInteger.valueOf(v));
+            h = h.multiply(BigInteger.valueOf(31)).add(BigInteger.valueOf(v));
         }
         return h.longValue();
     }

@@ -28,6 +28,7 @@ public final class FaceTest {
         constants();
         insides();
         words();
+        rowsAreMadeOnce();
         Due.end();
     }
 
@@ -104,6 +105,17 @@ public final class FaceTest {
         }
         yes("no lambda, no method reference", !code.contains("->") && !code.contains("::"));
         yes("signs 1 to 127", source.chars().allMatch(c -> c > 0 && c < 128));
+    }
+
+    /** All calls of one run live in one room: fields are made with their object, and no call makes more. */
+    private static void rowsAreMadeOnce() throws Exception {
+        int others = 0;
+        for (String line : Files.readAllLines(Path.of("src/main/java/HeavierSide.java"))) {
+            boolean makes = line.matches(".*\\bnew \\w+.*") && !line.strip().startsWith("*");
+            boolean isField = line.matches("\\s+(private )?final [\\w\\[\\]]+ \\w+ = new .*;");
+            others += makes && !isField ? 1 : 0;
+        }
+        Due.is("what is made beside fields: ROWS and TEXTS in the constructor", others, 2);
     }
 
     private static void yes(String what, boolean holds) {

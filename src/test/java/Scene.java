@@ -1,4 +1,5 @@
 import java.util.function.Consumer;
+import java.util.function.ToIntFunction;
 
 /** A way to make an object anew by the same calls each time, so that a test can have a twin of it. */
 final class Scene {
@@ -33,7 +34,7 @@ final class Scene {
         return new Scene(this, next);
     }
 
-    private Scene answers(String call, int due, java.util.function.ToIntFunction<HeavierSide> next) {
+    private Scene answers(String call, int due, ToIntFunction<HeavierSide> next) {
         return then(x -> Due.is("scene: " + call, next.applyAsInt(x), due));
     }
 
